@@ -777,13 +777,16 @@ public final class BlendBench {
         }
 
         private void moveRow(Chain chain, int i) {
-            for (int j = 0; j < chain.size; j++) {
-                spare[j] = 0;
-                for (int k = 0; k < chain.size; k++) {
-                    spare[j] += at(i, k) * chain.at(k, j);
+            int from = i * WIDTH;
+            for (int k = 0; k < chain.size; k++) {
+                spare[k] = rows[from + k];
+                rows[from + k] = 0;
+            }
+            for (int k = 0; k < chain.size; k++) {
+                for (int j = 0; j < chain.size && spare[k] != 0; j++) {
+                    rows[from + j] += spare[k] * chain.cells[k * WIDTH + j];
                 }
             }
-            System.arraycopy(spare, 0, rows, i * WIDTH, chain.size);
         }
 
         long at(int i, int j) {
@@ -793,8 +796,11 @@ public final class BlendBench {
         /** Twice how far two beginnings are apart. */
         long gap(Chain chain, int i, int j) {
             long sum = 0;
+            if (!chain.isState(i) || !chain.isState(j)) {
+                return sum;
+            }
             for (int k = 0; k < chain.size; k++) {
-                sum += Math.abs(at(i, k) - at(j, k));
+                sum += Math.abs(rows[i * WIDTH + k] - rows[j * WIDTH + k]);
             }
             return sum;
         }
