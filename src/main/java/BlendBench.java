@@ -23,7 +23,6 @@ public final class BlendBench {
     private Chain draft;
     private final Partition partition;
     private final Walk walk;
-    private final Minors minors;
     private final Hits hits;
     private final Neck neck;
     private final Fraction fraction;
@@ -39,8 +38,7 @@ public final class BlendBench {
         draft = new Chain();
         partition = new Partition();
         walk = new Walk();
-        minors = new Minors();
-        hits = new Hits(minors);
+        hits = new Hits();
         neck = new Neck();
         fraction = new Fraction();
     }
@@ -248,7 +246,7 @@ public final class BlendBench {
         if (!isSlot(t) || !draft.settle()) {
             return NONE;
         }
-        minors.fillShares(draft);
+        hits.minors.fillShares(draft);
         Chain old = slots[t];
         slots[t] = draft;
         draft = old;
@@ -915,8 +913,8 @@ public final class BlendBench {
         private final Minors minors;
         private final long[] right;
 
-        Hits(Minors minors) {
-            this.minors = minors;
+        Hits() {
+            minors = new Minors();
             right = new long[WIDTH];
         }
 
