@@ -1,71 +1,5 @@
-import java.util.NoSuchElementException;
-
 /** Each promise by hand: ordinary inputs, the edges that the document names, wrong inputs. */
-public final class PromisesTest {
-    private static final int NONE = BlendBench.NONE;
-    private static int wrong = 0;
-    private static int promise = 0;
-
-    private interface Call {
-        long answer();
-    }
-
-    private static void due(String call, long got, long want) {
-        if (got != want) {
-            wrong++;
-            System.out.println("promise " + promise + ": " + call + " answered " + got
-                    + ", due is " + want);
-        }
-    }
-
-    private static void due(String call, boolean got, boolean want) {
-        due(call, got ? 1 : 0, want ? 1 : 0);
-    }
-
-    private static void throwsNone(String call, Call c) {
-        boolean thrown = false;
-        try {
-            c.answer();
-        } catch (NoSuchElementException e) {
-            thrown = true;
-        }
-        due(call + " throws", thrown, true);
-    }
-
-    /** The tape then holds these bytes alone. */
-    private static void tape(BlendBench x, int... bytes) {
-        x.end(0);
-        for (int from = 0; from < bytes.length; from += 20) {
-            int[] five = new int[5];
-            for (int k = 0; k < 20 && from + k < bytes.length; k++) {
-                five[k / 4] |= bytes[from + k] << 24 - 8 * (k % 4);
-            }
-            x.feed(five[0], five[1], five[2], five[3], five[4]);
-        }
-        x.end(bytes.length);
-    }
-
-    private static int sheet(BlendBench x, int s, int n, int q, int... bytes) {
-        tape(x, bytes);
-        return x.sheet(s, n, q);
-    }
-
-    private static BlendBench with(int n, int q, int... bytes) {
-        BlendBench x = new BlendBench();
-        due("sheet of " + n + " over " + q, sheet(x, 0, n, q, bytes) > 0, true);
-        return x;
-    }
-
-    private static void dueChances(BlendBench x, int s, int n, int q, int... cells) {
-        due("n", x.about(s, 0), n);
-        due("Q", x.about(s, 1), q);
-        for (int k = 0; k < n * n; k++) {
-            long up = x.chance(s, k / n, k % n, 1, 0);
-            long low = x.chance(s, k / n, k % n, 1, 1);
-            due("cell " + k + " over " + q, up * q, cells[k] * low);
-        }
-    }
-
+public final class PromisesTest extends Checks {
     private static void dueFraction(String call, long up, long low, long wantUp, long wantLow) {
         due(call + " upper", up, wantUp);
         due(call + " lower", low, wantLow);
@@ -193,56 +127,44 @@ public final class PromisesTest {
         due("melt", x.melt(0, 1), 2);
         due("tape is empty", x.count(1), 0);
         due("OUT", x.count(2), 4);
-        dueParts(x, 0, 1, 1, 0);
+        dueOut(x, 0, 1, 1, 0);
         dueChances(x, 1, 2, 2, 1, 1, 1, 1);
-        due("like colours that do not lead alike", meltWith(x, 0, 1, 9, 8, 9, 8), 4);
-        dueParts(x, 0, 1, 2, 3);
+        due("like colours that do not lead alike", melt(x, 0, 1, 9, 8, 9, 8), 4);
+        dueOut(x, 0, 1, 2, 3);
         tape(x, 7, 7, 7, 7);
         due("one colour", x.melt(0, 1), 1);
         dueChances(x, 1, 1, 1, 1);
-        dueParts(x, 0, 0, 0, 0);
-        due("three colours", meltWith(x, 0, 1, 1, 0, 1, 255), 4);
+        dueOut(x, 0, 0, 0, 0);
+        due("three colours", melt(x, 0, 1, 1, 0, 1, 255), 4);
         dueChances(x, 1, 4, 4, 1, 1, 1, 1, 2, 0, 2, 0, 0, 2, 0, 2, 1, 1, 1, 1);
-        due("too few", meltWith(x, 0, 1, 1, 1, 1), NONE);
+        due("too few", melt(x, 0, 1, 1, 1, 1), NONE);
         due("tape is empty", x.count(1), 0);
-        due("too many", meltWith(x, 0, 1, 1, 1, 1, 1, 1), NONE);
+        due("too many", melt(x, 0, 1, 1, 1, 1, 1, 1), NONE);
         due("tape is empty", x.count(1), 0);
-        due("of none", meltWith(x, 3, 1), NONE);
-        due("into SLOT 6", meltWith(x, 0, 6, 1, 1, 1, 1), NONE);
+        due("of none", melt(x, 3, 1), NONE);
+        due("into SLOT 6", melt(x, 0, 6, 1, 1, 1, 1), NONE);
         due("tape is empty", x.count(1), 0);
         due("OUT stays", x.count(2), 4);
         due("t stays", x.about(1, 0), 4);
         // Two like halves: 0 and 1 stand for each other, so do 2 and 3, and Q goes down.
         sheet(x, 2, 4, 6, 1, 2, 2, 1, 2, 1, 1, 2, 6, 0, 0, 0, 3, 3, 0, 0);
-        due("in its place", meltWith(x, 2, 2, 5, 5, 3, 3), 2);
+        due("in its place", melt(x, 2, 2, 5, 5, 3, 3), 2);
         dueChances(x, 2, 2, 2, 1, 1, 2, 0);
-        dueParts(x, 0, 0, 1, 1);
+        dueOut(x, 0, 0, 1, 1);
         sheet(x, 3, 4, 1, 0, 1, 0, 0, 0, 0, 1, 0, 0, 0, 0, 1, 0, 0, 0, 1);
-        due("one split makes the next", meltWith(x, 3, 4, 5, 5, 5, 6), 4);
-    }
-
-    private static void dueParts(BlendBench x, int... parts) {
-        due("OUT", x.count(2), parts.length);
-        for (int k = 0; k < parts.length; k++) {
-            due("octet(" + k + ")", x.octet(k), parts[k]);
-        }
-    }
-
-    private static int meltWith(BlendBench x, int s, int t, int... colours) {
-        tape(x, colours);
-        return x.melt(s, t);
+        due("one split makes the next", melt(x, 3, 4, 5, 5, 5, 6), 4);
     }
 
     private static void octet() {
         BlendBench x = with(3, 1, 0, 1, 0, 0, 0, 1, 1, 0, 0);
-        due("melt", meltWith(x, 0, 0, 4, 5, 4), 3);
+        due("melt", melt(x, 0, 0, 4, 5, 4), 3);
         due("octet(0)", x.octet(0), 0);
         due("octet(2)", x.octet(2), 2);
         throwsNone("octet(3)", () -> x.octet(3));
         throwsNone("octet(-1)", () -> x.octet(-1));
         throwsNone("octet(MAX)", () -> x.octet(Integer.MAX_VALUE));
         sheet(x, 1, 1, 1, 1);
-        due("melt", meltWith(x, 1, 2, 0), 1);
+        due("melt", melt(x, 1, 2, 0), 1);
         throwsNone("octet(1) of the new OUT", () -> x.octet(1));
     }
 
@@ -516,13 +438,11 @@ public final class PromisesTest {
             PromisesTest::apart, PromisesTest::when, PromisesTest::stay, PromisesTest::steps,
             PromisesTest::ahead, PromisesTest::narrow, PromisesTest::cut, PromisesTest::count,
             PromisesTest::throwingChangesNothing};
+        int promise = 0;
         for (Runnable p : promises) {
             promise++;
-            p.run();
+            holds("Promise " + promise, p);
         }
-        System.out.println(wrong == 0 ? "all promises hold" : wrong + " answers are not as due");
-        if (wrong != 0) {
-            System.exit(1);
-        }
+        finish();
     }
 }
