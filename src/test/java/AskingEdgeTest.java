@@ -233,8 +233,8 @@ public final class AskingEdgeTest extends Checks {
 
     private static void whenNumbers() {
         int[][] wrong = {{-1, 1}, {-1, 1000}, {MIN, 1}, {MIN, MAX}, {2, 1}, {1000, 999},
-            {1001, 1000}, {1, 1001}, {0, 1001}, {1001, 1001}, {MAX, MAX}, {0, 0}, {0, -1}, {-1, -1}, {-2, -1},
-            {MIN, MIN}, {0, MIN}, {1, 0}};
+            {1001, 1000}, {1, 1001}, {0, 1001}, {1001, 1001}, {MAX, MAX}, {0, 0}, {0, -1},
+            {-1, -1}, {-2, -1}, {MIN, MIN}, {0, MIN}, {1, 0}};
         for (int[] pair : wrong) {
             refused(pair[0] + " by " + pair[1], x -> x.when(3, pair[0], pair[1]));
         }
@@ -402,6 +402,13 @@ public final class AskingEdgeTest extends Checks {
         throwsNone("no way back", () -> x.narrow(0, 0));
         sheet(x, 0, 2, 60, 59, 1, 1, 59);
         dueFraction("a way back", what -> x.narrow(0, what), 1, 60);
+        // 1 and 2 alone would have a half each.
+        sheet(x, 1, 3, 60, 59, 1, 0, 0, 30, 30, 0, 30, 30);
+        throwsNone("a CLOSED HEAP of two of three", () -> x.narrow(1, 0));
+        due("its cut", x.cut(1), NONE);
+        sheet(x, 1, 3, 60, 59, 1, 0, 1, 29, 30, 0, 30, 30);
+        dueFraction("a way back to 0", what -> x.narrow(1, what), 1, 60);
+        due("its cut", x.cut(1), 1);
     }
 
     private static void narrowOneState() {

@@ -188,6 +188,24 @@ public final class MakingEdgeTest extends Checks {
         due("HEAPS", x.about(0, 2), 8);
     }
 
+    private static void sheetLeavesNothingOfTheOld() {
+        BlendBench x = new BlendBench();
+        // A slot's old chain may be the room of a new one: nothing of it is seen in that.
+        for (int k = 0; k < 3; k++) {
+            sheet(x, 0, 8, 1, ring(8));
+            sheet(x, 0, 8, 60, cells(8, 0, 1, 60, 1, 0, 1, 1, 1, 59, 2, 3, 60, 3, 4, 60, 4, 5, 60,
+                    5, 6, 60, 6, 7, 60, 7, 0, 60));
+            sheet(x, 0, 3, 2, 0, 2, 0, 0, 1, 1, 0, 1, 1);
+            dueFraction("share of 0", what -> x.stay(0, 0, what), 0, 1);
+            dueFraction("share of 1", what -> x.stay(0, 1, what), 1, 2);
+            due("HEAPS", x.about(0, 2), 2);
+            due("BEAT", x.state(0, 0, 2), 0);
+            sheet(x, 0, 2, 1, 1, 0, 0, 1);
+            throwsNone("share of two CLOSED", () -> x.stay(0, 0, 0));
+            due("cut", x.cut(0), NONE);
+        }
+    }
+
     private static void sheetEmptiesTape() {
         BlendBench x = new BlendBench();
         due("sheet", sheet(x, 0, 2, 4, 3, 1, 2, 2), 4);
@@ -405,6 +423,14 @@ public final class MakingEdgeTest extends Checks {
         dueChances(x, 1, 3, 60, 0, 0, 60, 60, 0, 0, 0, 1, 59);
     }
 
+    private static void backUpToSixty() {
+        for (int q = 2; q <= 60; q++) {
+            BlendBench x = with(2, q, 1, q - 1, q - 1, 1);
+            due("back of " + q + ", BOTH WAYS", x.back(0, 1), q);
+            dueChances(x, 1, 2, q, 1, q - 1, q - 1, 1);
+        }
+    }
+
     private static void backAboveSixty() {
         BlendBench x = with(3, 4, 0, 0, 4, 1, 1, 2, 1, 2, 1);
         due("60", x.back(0, 1), 60);
@@ -617,6 +643,7 @@ public final class MakingEdgeTest extends Checks {
 
     private static void promise4() {
         holds("4: in the place of what is there", MakingEdgeTest::sheetInPlace);
+        holds("4: in the place of all that is there", MakingEdgeTest::sheetLeavesNothingOfTheOld);
         holds("4: empty then, here and below", MakingEdgeTest::sheetEmptiesTape);
         holds("4: from 0 to all others, from 1 ..", MakingEdgeTest::sheetOrder);
         holds("4: no such SLOT", MakingEdgeTest::sheetSlots);
@@ -638,6 +665,7 @@ public final class MakingEdgeTest extends Checks {
         holds("6: SLOT t is the CHAIN of s BACK: Q", MakingEdgeTest::backQ);
         holds("6: SLOT t is the CHAIN of s BACK, in any place", MakingEdgeTest::backInPlace);
         holds("6: NONE also if s is not WHOLE", MakingEdgeTest::backNotWhole);
+        holds("6: likewise below: Q is 60 at most", MakingEdgeTest::backUpToSixty);
         holds("6: likewise below: Q would be above 60", MakingEdgeTest::backAboveSixty);
         holds("6: likewise below: no CHAIN", MakingEdgeTest::backNoChain);
         holds("6: likewise below: no such SLOT", MakingEdgeTest::backNoSlot);

@@ -278,6 +278,12 @@ public final class TermsEdgeTest extends Checks {
             due("HEAP of " + i, x.state(1, i, 0), next[i]);
             due("CLOSED " + i, x.state(1, i, 1), i == 1 ? 0 : 1);
         }
+        // {0, 1, 2}, {3, 6}, {4, 5}: states between their least ones bring no number.
+        sheet(x, 2, 7, 1, cells(7, 0, 1, 1, 1, 2, 1, 2, 0, 1, 3, 6, 1, 6, 3, 1, 4, 5, 1, 5, 4, 1));
+        int[] behind = {0, 0, 0, 1, 2, 2, 1};
+        for (int i = 0; i < 7; i++) {
+            due("HEAP of " + i, x.state(2, i, 0), behind[i]);
+        }
     }
 
     private static void closed() {
@@ -739,6 +745,50 @@ public final class TermsEdgeTest extends Checks {
         due("the last one", x.cut(1), 4);
     }
 
+    /** Eight states alike either way: two, three and three that hang together by 20 by 60. */
+    private static int[] threeGroups(int outOfTwo, int outOfThree) {
+        int[] bytes = new int[64];
+        int[] group = {0, 0, 1, 1, 1, 2, 2, 2};
+        for (int i = 0; i < 8; i++) {
+            for (int j = 0; j < 8; j++) {
+                bytes[i * 8 + j] = group[i] == group[j] ? 20 : 0;
+            }
+        }
+        tie(bytes, 0, 5, (outOfTwo + 1) / 2);
+        tie(bytes, 1, 6, outOfTwo / 2);
+        tie(bytes, 2, 5, (outOfThree + 2) / 3);
+        tie(bytes, 3, 6, (outOfThree + 1) / 3);
+        tie(bytes, 4, 7, outOfThree / 3);
+        for (int i = 0; i < 8; i++) {
+            bytes[i * 8 + i] = 0;
+            int sum = 0;
+            for (int j = 0; j < 8; j++) {
+                sum += bytes[i * 8 + j];
+            }
+            bytes[i * 8 + i] = 60 - sum;
+        }
+        return bytes;
+    }
+
+    private static void tie(int[] bytes, int i, int j, int by) {
+        bytes[i * 8 + j] = by;
+        bytes[j * 8 + i] = by;
+    }
+
+    private static void narrowByALittle() {
+        // The two have outs by 120, the three by 180; to part a group takes more than either.
+        for (int two = 2; two <= 9; two++) {
+            for (int three = 3; three <= 14; three++) {
+                BlendBench x = with(8, 60, threeGroups(two, three));
+                boolean first = 3 * two <= 2 * three;
+                long up = first ? two : three;
+                long low = first ? 120 : 180;
+                due(two + " by 120 or " + three + " by 180", x.cut(0), first ? 3 : 28);
+                due("narrow", x.narrow(0, 0) * low, x.narrow(0, 1) * up);
+            }
+        }
+    }
+
     // Terms: throwing
 
     private static void throwingChangesNothing() {
@@ -808,6 +858,7 @@ public final class TermsEdgeTest extends Checks {
         holds("above 0 and a half at most", TermsEdgeTest::narrowHalf);
         holds("of like ones the set with the least bits", TermsEdgeTest::narrowLike);
         holds("NARROW: the least of what goes out by its share", TermsEdgeTest::narrowLeast);
+        holds("NARROW: the least, by a little", TermsEdgeTest::narrowByALittle);
         holds("A call that throws changes nothing.", TermsEdgeTest::throwingChangesNothing);
         finish();
     }
